@@ -832,11 +832,11 @@ public final class MillOfDistances {
         }
 
         long at(int i) {
-            return hasElements(i, 1) ? elements[i] : 0L;
+            return i >= 0 && i < size ? elements[i] : 0L;
         }
 
         int asInt(int i) {
-            return (int) at(i);
+            return i >= 0 && i < size ? (int) elements[i] : 0;
         }
 
         void put(int i, long v) {
@@ -961,9 +961,10 @@ public final class MillOfDistances {
 
         /** What a PLACE asks for a spreading of n MILES. */
         int asks(int p, int n) {
-            if (!has(p)) {
+            if (p < 0 || p >= count) {
                 return 0;
             }
+            int paid = n - n / 10;
             switch (kinds[p]) {
                 case HILL:
                     return 2 * n;
@@ -974,9 +975,9 @@ public final class MillOfDistances {
                 case BOG:
                     return 2 * n + marks[p];
                 case TOWN:
-                    return n - n / 10;
+                    return paid;
                 case CITY:
-                    return Math.max(0, n - n / 10 - 1);
+                    return paid < 1 ? 0 : paid - 1;
                 default:
                     return n;
             }

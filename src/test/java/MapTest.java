@@ -124,6 +124,8 @@ public final class MapTest {
         Due.due("FLOUR behind all", x.status(3), 40 - 20 - 7);
         Due.due("WIND behind all", x.status(4), 0);
         Due.due("PLACES behind all", x.status(0), 2);
+        Due.mapStands(x, "flour 99;road 0 1 1;far 0 1 2;near 0 1 2;road 0 1 999;near 0 1 2", 6);
+        Due.due("the least and the greatest of MILES", x.miles(0, 1), 997);
         MillOfDistances y = new MillOfDistances();
         String text = "place 1 2";
         y.row(0, 3, text.length());
@@ -186,6 +188,7 @@ public final class MapTest {
         Due.mapFails(z, "mill 0 2", 7);
         Due.mapFails(z, "mill 3 0", 5);
         Due.mapFails(z, "near 3 3 1", 5);
+        Due.mapFails(z, "road 1 1 9", 7);
         Due.mapStands(z, "far 0 1 9", 1);
         Due.due("999 MILES", z.miles(0, 1), 999);
     }

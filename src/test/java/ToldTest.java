@@ -151,6 +151,9 @@ public final class ToldTest {
         judgeIs(x, 3, 5, 5, 5, 0, 5, 5);
         judgeIs(x, 0, 5, 5, 5, -1, 5, 5);
         judgeIs(x, 0, 0, 5, 5, 5, 5, 5);
+        judgeIs(x, 4, 9, 9, 1, 9, 11, 9);
+        judgeIs(x, 3, 2, 5, 5, 8, 6, 5);
+        judgeIs(x, 5, 5, 1, 1, 5, 5, 3);
         judgeIs(x, -1, 9, 9, 9, 9, 9, 9, -9);
         judgeIs(x, -1, Integer.MAX_VALUE, Integer.MAX_VALUE, Integer.MAX_VALUE, Integer.MAX_VALUE, Integer.MAX_VALUE,
                 Integer.MAX_VALUE);

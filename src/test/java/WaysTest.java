@@ -149,6 +149,9 @@ public final class WaysTest {
         MillOfDistances y = Due.millOf(0, 0, 0, 0, 0, 0);
         Due.roads(y, 5, 4, 7, 3, 4, 6, 3, 5, 8, 1, 2, 3, 0, 5, 100, 1, 0, 200);
         Due.due("KEEP takes long ROADS where it must", y.whole(3), 7 + 6 + 3 + 100 + 200);
+        MillOfDistances z = Due.millOf(0, 0, 0, 0);
+        Due.roads(z, 0, 3, 2, 1, 3, 4, 2, 3, 3, 0, 1, 5, 1, 2, 6);
+        Due.due("KEEP by the last PLACE", z.whole(3), 2 + 4 + 3);
     }
 
     private static void promise22() {
@@ -259,6 +262,7 @@ public final class WaysTest {
         Due.due("of 0 and 2: 3 is 4 and 6", x.meet(0, 2), 3);
         Due.due("of two at the ends of one ROAD the first", x.meet(6, 5), 5);
         Due.due("of two sets", x.meet(0, 5), -1);
+        Due.due("at the first PLACE", x.meet(3, 0), 0);
         Due.due("no such PLACE", x.meet(0, 8), -11);
         Due.due("PLACE -1", x.meet(-1, -1), -11);
         Due.refusals("of meets", x, 2);
