@@ -1237,7 +1237,6 @@ public final class MillOfDistances {
         private static final int FLOUR_WORD = 3;
         private static final int WIND_WORD = 4;
         private static final int NEAR_WORD = 5;
-        private static final int FAR_WORD = 6;
         /** How many NUMBERS stand behind each word. */
         private static final int[] NUMBERS = {2, 3, 2, 1, 1, 3, 3};
         private static final int MOST_DIGITS = 5;
