@@ -788,6 +788,10 @@ public final class MillOfDistances {
         return kind >= PLACE && kind <= CITY;
     }
 
+    private static int kindAbove(int kind) {
+        return isKind(kind) ? KIND_ABOVE[kind] : NONE;
+    }
+
     private static int pairsOf(int count) {
         return count * (count - 1) / 2;
     }
@@ -908,7 +912,7 @@ public final class MillOfDistances {
                 if (k == kind) {
                     return true;
                 }
-                k = KIND_ABOVE[k];
+                k = kindAbove(k);
             }
             return false;
         }
@@ -1452,7 +1456,7 @@ public final class MillOfDistances {
                 if (i >= 0 && i < BODIES.length && BODIES[i] != 0) {
                     return BODIES[i];
                 }
-                of = KIND_ABOVE[of];
+                of = kindAbove(of);
             }
             return 0;
         }
@@ -1471,7 +1475,7 @@ public final class MillOfDistances {
                 return 0;
             }
             by.noteBody(body);
-            int above = KIND_ABOVE[body / 10 - 1];
+            int above = kindAbove(body / 10 - 1);
             int deeper = depth + 1;
             switch (body) {
                 case 10:

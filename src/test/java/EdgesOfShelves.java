@@ -48,6 +48,8 @@ final class EdgesOfShelves {
             Edge.due("the last can be set", x.set(7, 159, 1), 1);
             Edge.due("over a PLACE", x.row(3, of, 2), 1);
             Edge.due("no PLACE any more", x.holds(3), 100 + of);
+            Edge.due("can be set, too", x.set(3, 1, 9), 1);
+            Edge.due("is", x.element(3, 1), 9);
         }
         MillOfDistances y = Edge.all();
         for (int i = 0; i < 160; i++) {

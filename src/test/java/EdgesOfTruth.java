@@ -261,6 +261,14 @@ final class EdgesOfTruth {
         Edge.due("to one of as many", more.restore(), 2);
         Edge.due("the PLACE stays", more.holds(0), 1);
         Edge.due("the other, too", more.holds(1), 0);
+        more.place(0, 0);
+        for (int s = 0; s < 8; s++) {
+            more.show(s, 2);
+        }
+        Edge.due("to one of fewer", more.restore(), 2);
+        for (int s = 0; s < 8; s++) {
+            Edge.due("NOTHING in SHELF " + s, more.holds(s), -1);
+        }
         y.place(1, 0);
         y.show(7, 0);
         Edge.due("restore of one", y.restore(), 1);

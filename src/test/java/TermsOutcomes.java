@@ -291,6 +291,7 @@ final class TermsOutcomes {
         judged(4, 3, 1, 1, 1, 3, 2, 2);
         judged(4, -1, 1, 1, 3, 2, 2, 2);
         judged(4, 2, 1, 1, 4, 2, 2, 2);
+        judged(4, 2, 5, 5, -1, 5, 9, 9);
         judged(1, -1);
         judged(0, -1);
         judged(3, -1, 5, 5, 5, 0, -1, 99);
@@ -352,6 +353,7 @@ final class TermsOutcomes {
         Edge.asks(table(Edge::empty), 0, x -> x.theft(2, 0));
         Edge.term("the first such (10,000 times the lesser, 100 times the other, and n)");
         Edge.asks(table(two, 99), 101, x -> x.theft(2, 1));
+        Edge.asks(table(two, 98), 102, x -> x.theft(2, 1));
         Edge.asks(table(two, 1), 199, x -> x.theft(2, 1));
         Edge.asks(table(roads(3, 1, 2, 10), -1, -1, 4), 10_206, x -> x.theft(2, 1));
         Edge.term("Each ROAD counts once for a THEFT.");
