@@ -120,6 +120,8 @@ final class TermsOutcomes {
         Edge.asks(() -> Edge.places(8), 0, x -> x.whole(3));
         Edge.asks(TermsOutcomes::apart, 35, x -> x.whole(3));
         Edge.asks(roads(3, 0, 1, 7, 1, 2, 8, 0, 2, 9), 15, x -> x.whole(3));
+        Edge.asks(roads(3, 0, 2, 5, 1, 2, 7), 12, x -> x.whole(3));
+        Edge.asks(roads(4, 0, 3, 5, 3, 2, 6, 2, 1, 999), 1010, x -> x.whole(3));
         Edge.asks(roads(4, 0, 1, 9, 1, 2, 8, 2, 3, 7, 3, 0, 6, 0, 2, 5), 5 + 6 + 8, x -> x.whole(3));
         Edge.asks(roads(6, 0, 5, 999, 5, 4, 999, 1, 2, 1), 1999, x -> x.whole(3));
     }
