@@ -907,19 +907,19 @@ public final class MillOfDistances {
 
         /** Whether a PLACE is of a KIND, or of one under it. */
         boolean isOf(int p, int kind) {
-            int k = has(p) ? kinds[p] : NONE;
-            for (int level = 0; level < 3 && isKind(k); level++) {
+            int k = p >= 0 && p < count ? kinds[p] : NONE;
+            for (int level = 0; level < 3 && k >= 0 && k < KIND_ABOVE.length; level++) {
                 if (k == kind) {
                     return true;
                 }
-                k = kindAbove(k);
+                k = KIND_ABOVE[k];
             }
             return false;
         }
 
         /** MILES of the ROAD, 0 for none: also of what is no PLACE, and of one PLACE with itself. */
         int between(int p, int q) {
-            return hasBoth(p, q) ? roads[p * MOST_PLACES + q] : 0;
+            return p >= 0 && p < count && q >= 0 && q < count ? roads[p * MOST_PLACES + q] : 0;
         }
 
         void lay(int p, int q, int n) {

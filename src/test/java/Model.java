@@ -1010,6 +1010,11 @@ final class Model {
         }
     }
 
+    /** Whether a pinch MAY be, without any refusal. */
+    boolean mayPinch(int p, int q, int n) {
+        return may(now, p, q, n);
+    }
+
     /** MILES of a ROAD, without any refusal. */
     int between(int p, int q) {
         return now.miles(p, q);
